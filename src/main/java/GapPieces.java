@@ -403,7 +403,7 @@ public final class GapPieces {
         }
 
         boolean has(int piece) {
-            return piece >= 0 && piece < pieces && piece < MOST_PIECES;
+            return piece >= 0 && piece < pieces && piece < shapes.length;
         }
 
         boolean isLying(int piece) {
@@ -634,23 +634,23 @@ public final class GapPieces {
 
         private void survey(int piece, int others) {
             int shape = table.shapeOf(piece);
-            for (int i = 0; i < SIDE; i++) {
+            for (int i = 0; i < taken.length; i++) {
                 taken[i] = table.wallSquares(i + LOWEST) | table.squaresOfSet(others, i + LOWEST);
             }
             markClear(shape, open);
-            for (int i = 0; i < SIDE; i++) {
+            for (int i = 0; i < taken.length; i++) {
                 taken[i] = table.boardSquares(i + LOWEST);
             }
             markClear(shape, outside);
             queued = 0;
-            for (int place = 0; place < PLACES; place++) {
+            for (int place = 0; place < distances.length; place++) {
                 distances[place] = NONE;
             }
         }
 
         /** Marks the places at which no square of the shape is on one that is taken. */
         private void markClear(int shape, int[] marks) {
-            for (int y = 0; y < SPAN && y < marks.length; y++) {
+            for (int y = 0; y < marks.length; y++) {
                 int hit = 0;
                 for (int r = 0; r < EDGE && y + r < taken.length; r++) {
                     hit |= hitPlaces(rowOf(shape, r), taken[y + r]);
@@ -680,7 +680,7 @@ public final class GapPieces {
         }
 
         private void reach(int place, int distance) {
-            if (isMarked(open, place) && distanceOf(place) < 0 && queued < queue.length) {
+            if (isMarked(open, place) && distanceOf(place) < 0 && place < distances.length && queued < queue.length) {
                 distances[place] = distance;
                 queue[queued] = place;
                 queued++;
@@ -688,11 +688,14 @@ public final class GapPieces {
         }
 
         private int distanceOf(int place) {
-            return place < 0 || place >= PLACES ? NONE : distances[place];
+            return place < 0 || place >= distances.length ? NONE : distances[place];
         }
 
         private static boolean isMarked(int[] marks, int place) {
-            return place >= 0 && place < PLACES && (marks[place / SPAN] >> place % SPAN & 1) == 1;
+            if (place < 0 || place / SPAN >= marks.length) {
+                return false;
+            }
+            return (marks[place / SPAN] >> place % SPAN & 1) == 1;
         }
 
         private int whereLies(int piece) {

@@ -50,6 +50,7 @@ public final class PromiseTests {
         out();
         places();
         blocks();
+        blocksAtTheEnds();
         order();
         apart();
         push();
@@ -707,6 +708,25 @@ public final class PromiseTests {
         for (int p : new int[] {-1, 5, 8, Integer.MIN_VALUE, Integer.MAX_VALUE, 32}) {
             due("14: blocks(" + p + ", 0)", g.blocks(p, 0), BAD);
         }
+    }
+
+    /** Squares of a piece reach four beyond the places: column 17, row 17. */
+    private static void blocksAtTheEnds() {
+        GapPieces g = with(12, 10, 1 + (1 << 21), 1 + (1 << 9), DOT, DOT);
+        laid(g, 0, 0, 13);
+        laid(g, 2, 1, 13);
+        due("14: from row 17 down", g.blocks(0, 3), 4);
+        due("14: up to row 17", g.blocks(2, 1), 1);
+        laid(g, 2, 1, -6);
+        due("14: from row 17 down to row -6", g.blocks(0, 3), 4);
+        due("14: from row -6 up to row 17", g.blocks(2, 1), 1);
+        laid(g, 1, 13, 0);
+        laid(g, 3, 13, 1);
+        due("14: from column 17 left", g.blocks(1, 2), 8);
+        due("14: right to column 17", g.blocks(3, 0), 2);
+        laid(g, 3, -6, 1);
+        due("14: from column 17 left to column -6", g.blocks(1, 2), 8);
+        due("14: from column -6 right to column 17", g.blocks(3, 0), 2);
     }
 
     private static void order() {
