@@ -11,6 +11,8 @@ import java.util.Set;
 public final class BoundaryTests {
     private static final int MOST_CALLS = 512;
     private static final int MOST_STEPS_WATCHED = 45;
+    // stateAfter asks so many calls at most: counts, steps, of 8 pieces 8 things each, 8 put away, one more piece, 120 squares.
+    private static final int WATCHING_CALLS = 5 + MOST_STEPS_WATCHED + 64 + 8 + 1 + 120;
 
     private static final Map<String, Integer> NUMBERS = Map.ofEntries(
         Map.entry("BAD", -1), Map.entry("NO", -2), Map.entry("FULL", -3), Map.entry("NONE", -4),
@@ -90,6 +92,9 @@ public final class BoundaryTests {
             if (!part.isBlank()) {
                 calls.add(read(part.strip()));
             }
+        }
+        if (calls.size() > MOST_CALLS - WATCHING_CALLS) {
+            throw new IllegalStateException("too long a run: " + sentence);
         }
         GapPieces g = new GapPieces();
         for (int i = 0; i < calls.size(); i++) {
@@ -551,6 +556,10 @@ public final class BoundaryTests {
         holds("Wherever the others are", """
             piece(DOT) = 0; piece(DOT) = 1; piece(DOT) = 2; put(0, 0, 0) = 1; put(1, 2, 0) = 1; put(2, 4, 0) = 1
             blocks(0, 0) = 6; blocks(1, 0) = 4; blocks(2, 0) = 0; blocks(2, 2) = 3; blocks(1, 2) = 1; blocks(0, 2) = 0
+            """);
+        holds("Wherever the others are, one above the other", """
+            piece(DOT) = 0; piece(BAR) = 1; piece(DOT) = 2; put(0, 2, 0) = 1; put(1, 0, 2) = 1; put(2, 2, 4) = 1
+            blocks(0, 1) = 6; blocks(1, 1) = 4; blocks(2, 1) = 0; blocks(2, 3) = 3; blocks(1, 3) = 1; blocks(0, 3) = 0
             """);
         holds("Walls count for nothing there", """
             board(5, 1) = 5; piece(DOT) = 0; piece(DOT) = 1; put(0, 0, 0) = 1; put(1, 4, 0) = 1; walls(0, 14) = 14
