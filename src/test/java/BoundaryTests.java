@@ -514,6 +514,13 @@ public final class BoundaryTests {
             piece(DOT) = 0; piece(SLANT) = 1; put(1, -6, -6) = 1; stands(0, -6, -6) = 1; places(0, 1) = 0; put(0, -6, -6) = 1; slide(0, 0, 1) = 0; slide(0, 1, 1) = 0
             places(0, 1) = 0; out(0) = 0
             """);
+        // Below the board the dots leave the great piece one place in which it is out, or none, if the fifth is a row higher.
+        holds("Rooms: one that is apart, with one place in which it is out, makes none", """
+            board(12, 10) = 120; piece(WHOLE) = 0; piece(DOT) = 1; piece(DOT) = 2; piece(DOT) = 3; piece(DOT) = 4; piece(DOT) = 5; walls(1, 16) = 16
+            put(1, -2, -2) = 1; put(2, 3, -2) = 1; put(3, 9, -2) = 1; put(4, 13, -2) = 1; put(5, 4, -6) = 1
+            stands(0, 4, -5) = 1; stands(0, 4, -4) = 1; stands(0, 3, -4) = 0; stands(0, 5, -4) = 0; stands(0, 4, -3) = 0; places(0, 1) = 0
+            put(5, 4, -5) = 1; stands(0, 4, -5) = 0; stands(0, 4, -4) = 1; places(0, 1) = 1; walls(1, 0) = 0; places(0, 1) = 0
+            """);
         holds("Rooms: its own squares are no border", """
             board(5, 3) = 15; piece(DOT) = 0; walls(0, 31) = 31; walls(1, 17) = 17; walls(2, 31) = 31; places(0, 1) = 1; put(0, 2, 1) = 1; places(0, 1) = 1
             piece(DOT) = 1; places(1, 1) = 2; away(0) = 1; places(1, 1) = 1
